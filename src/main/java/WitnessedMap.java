@@ -246,33 +246,23 @@ public final class WitnessedMap {
 
         /** What is told of a node hangs on what is below it, so it is made anew from below upwards. */
         void renew() {
-            if (leaf) {
-                renewLeaf();
-            } else {
-                renewInner();
-            }
-        }
-
-        private void renewLeaf() {
-            least = size > 0 ? keys[0] : 0;
-            count = size;
-            int h = mix(mix(1, LEAF), size);
+            int entries = 0;
+            int h = mix(mix(1, leaf ? LEAF : INNER), size);
             for (int i = 0; i < size; i++) {
-                h = mix(mix(h, keys[i]), values[i]);
+                if (leaf) {
+                    h = mix(mix(h, keys[i]), values[i]);
+                    entries++;
+                } else {
+                    Node child = children[i];
+                    h = mix(mix(mix(h, child.least), child.digest), child.count);
+                    entries += child.count;
+                }
             }
             digest = h;
-        }
-
-        private void renewInner() {
-            least = children[0].least;
-            count = 0;
-            int h = mix(mix(1, INNER), size);
-            for (int i = 0; i < size; i++) {
-                Node child = children[i];
-                h = mix(mix(mix(h, child.least), child.digest), child.count);
-                count += child.count;
+            count = entries;
+            if (size > 0) {
+                least = leaf ? keys[0] : children[0].least;
             }
-            digest = h;
         }
     }
 
@@ -406,35 +396,25 @@ public final class WitnessedMap {
         }
 
         private void refill(Node parent, int place) {
-            boolean hasBefore = place > 0;
-            boolean hasBehind = place + 1 < parent.size;
-            if (hasBefore && parent.children[place - 1].size > low) {
-                borrowFromBefore(parent, place);
-            } else if (hasBehind && parent.children[place + 1].size > low) {
-                borrowFromBehind(parent, place);
-            } else if (hasBefore) {
+            Node node = parent.children[place];
+            Node before = place > 0 ? parent.children[place - 1] : null;
+            Node behind = place + 1 < parent.size ? parent.children[place + 1] : null;
+            if (before != null && before.size > low) {
+                before.moveSlot(before.size - 1, node, 0);
+                before.renew();
+                node.renew();
+            } else if (behind != null && behind.size > low) {
+                behind.moveSlot(0, node, node.size);
+                behind.renew();
+                node.renew();
+            } else if (before != null) {
                 join(parent, place - 1);
-            } else if (hasBehind) {
+            } else if (behind != null) {
                 join(parent, place);
             }
         }
 
-        private void borrowFromBefore(Node parent, int place) {
-            Node before = parent.children[place - 1];
-            Node node = parent.children[place];
-            before.moveSlot(before.size - 1, node, 0);
-            before.renew();
-            node.renew();
-        }
-
-        private void borrowFromBehind(Node parent, int place) {
-            Node node = parent.children[place];
-            Node behind = parent.children[place + 1];
-            behind.moveSlot(0, node, node.size);
-            behind.renew();
-            node.renew();
-        }
-
+        /** All of the node behind a place goes to the end of the node there. */
         private void join(Node parent, int place) {
             Node node = parent.children[place];
             parent.children[place + 1].moveTail(0, node);
