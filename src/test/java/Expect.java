@@ -4,15 +4,24 @@ import java.util.Arrays;
 final class Expect {
     private static int wrong = 0;
     private static int asked = 0;
+    private static String about = "";
 
     private Expect() {
+    }
+
+    /** Runs the test of one sentence of the document, which is printed with all that it finds. */
+    static void sentence(String words, Runnable test) {
+        int before = asked;
+        about = "\"" + words + "\": ";
+        test.run();
+        same("the test asks something", asked > before, true);
+        about = "";
     }
 
     static void same(String what, long got, long due) {
         asked++;
         if (got != due) {
-            wrong++;
-            System.out.println(what + ": got " + got + ", due is " + due);
+            tell(what, Long.toString(got), Long.toString(due));
         }
     }
 
@@ -23,17 +32,28 @@ final class Expect {
     static void same(String what, int[] got, int[] due) {
         asked++;
         if (!Arrays.equals(got, due)) {
-            wrong++;
-            System.out.println(what + ": got " + Arrays.toString(got) + ", due is " + Arrays.toString(due));
+            tell(what, Arrays.toString(got), Arrays.toString(due));
         }
     }
 
     static void same(String what, String got, String due) {
         asked++;
         if (!got.equals(due)) {
-            wrong++;
-            System.out.println(what + ": got " + got + ", due is " + due);
+            tell(what, got, due);
         }
+    }
+
+    /** The whole tree of a map, as far as its face shows it. */
+    static void tree(String what, WitnessedMap map, Shape due) {
+        same(what + ", tree", Maps.wholeTree(map), due.tokens());
+        same(what + ", root", map.root(), due.digest());
+        same(what + ", size", map.size(), due.count());
+        same(what + ", height", map.height(), due.height());
+    }
+
+    private static void tell(String what, String got, String due) {
+        wrong++;
+        System.out.println(about + what + ": got " + got + ", due is " + due);
     }
 
     static int wrongSoFar() {

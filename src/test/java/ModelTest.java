@@ -9,6 +9,11 @@ public final class ModelTest {
         Integer.MAX_VALUE - 1, Integer.MAX_VALUE
     };
 
+    // More calls than a step of a run can take.
+    private static final int ONE_STEP = 20;
+    // A proof has at most 232 tokens; two more are looked at, and prove, root and check are called.
+    private static final int WHOLE_PROOF = 237 + ONE_STEP;
+
     private int rightChecks = 0;
     private int rightCounts = 0;
 
@@ -17,7 +22,7 @@ public final class ModelTest {
 
     public static void main(String[] args) {
         ModelTest test = new ModelTest();
-        for (int seed = 1; seed <= 400 && Expect.wrongSoFar() < 20; seed++) {
+        for (int seed = 1; seed <= 3000 && Expect.wrongSoFar() < 20; seed++) {
             test.runOfCalls(seed);
         }
         for (int seed = 1; seed <= 4000 && Expect.wrongSoFar() < 20; seed++) {
@@ -32,14 +37,18 @@ public final class ModelTest {
         Random random = new Random(seed);
         int fan = seed % 8;
         int keys = 20 + random.nextInt(140);
-        WitnessedMap map = new WitnessedMap(fan);
-        Model model = new Model(fan);
+        Pair pair = new Pair("run " + seed, new WitnessedMap(fan), new Model(fan), 0);
         // First more is put than removed, then the other way round, so that trees grow and shrink.
-        for (int call = 0; call < 510; call++) {
-            int growing = call % 250 < 125 ? 7 : 2;
-            one(seed + "/" + call, random, map, model, keys, growing);
+        int turn = 40 + random.nextInt(160);
+        boolean looksAtAll = seed % 3 == 0;
+        for (int step = 0; pair.callsLeft() > (looksAtAll ? WHOLE_PROOF : ONE_STEP); step++) {
+            int growing = step % (2 * turn) < turn ? 7 : 2;
+            one(random, pair, keys, growing);
         }
-        Expect.same(seed + ", the model is sound", model.isSound(), true);
+        if (looksAtAll) {
+            wholeProof(random, pair, keys);
+        }
+        Expect.same(seed + ", the model is sound", pair.model.isSound(), true);
     }
 
     private static int pick(Random random, int keys) {
@@ -47,84 +56,79 @@ public final class ModelTest {
                 ? EXTREMES[random.nextInt(EXTREMES.length)] : random.nextInt(keys) - keys / 2;
     }
 
-    private void one(String at, Random random, WitnessedMap map, Model model, int keys, int growing) {
+    private void one(Random random, Pair pair, int keys, int growing) {
         int x = pick(random, keys);
         int y = pick(random, keys);
-        if (random.nextInt(3) > 0) {
+        if (random.nextInt(5) > 0) {
             if (random.nextInt(9) < growing) {
-                Expect.same(at + " put", map.put(x, y), model.put(x, y));
+                pair.put(x, y);
             } else {
-                Expect.same(at + " remove", map.remove(x), model.remove(x));
+                pair.remove(x);
             }
-            Expect.same(at + " root", map.root(), model.root());
             return;
         }
         switch (random.nextInt(9)) {
             case 0:
-                Expect.same(at + " get", map.get(x), model.get(x));
+                pair.get(x);
                 break;
             case 1:
-                Expect.same(at + " size", map.size(), model.size());
-                Expect.same(at + " height", map.height(), model.height());
+                pair.size();
+                pair.height();
+                pair.root();
                 break;
             case 2:
-                Expect.same(at + " within", map.within(x, y), model.within(x, y));
+                pair.within(x, y);
                 break;
             case 3:
-                Expect.same(at + " alter", map.alter(Math.abs(x), y), model.alter(Math.abs(x), y));
+                pair.alter(Math.abs(x), y);
                 break;
             case 4:
-                Expect.same(at + " trim", map.trim(x * 5), model.trim(x * 5));
+                pair.trim(x * 5);
                 break;
             case 5:
-                Expect.same(at + " row", map.row(x, y & 3), model.row(x, y & 3));
+                pair.row(x, y & 3);
                 break;
             default:
-                proveAndCheck(at, random, map, model, x, y);
+                proveAndCheck(random, pair, x, y);
         }
     }
 
-    private void proveAndCheck(String at, Random random, WitnessedMap map, Model model, int x, int y) {
-        boolean counts = random.nextBoolean();
+    private void proveAndCheck(Random random, Pair pair, int x, int y) {
         int a = random.nextInt(10) == 0 ? x : Math.min(x, y);
         int b = Math.max(x, y);
-        Expect.same(at + " prove", map.prove(a, b, counts), model.prove(a, b, counts));
-        Expect.same(at + " tokens", tokensOf(map, model.proof.size()), tokensOf(model, model.proof.size()));
-        int tamper = random.nextInt(3 * model.proof.size() + 1);
-        int bit = 1 << random.nextInt(32);
-        map.alter(tamper, map.token(tamper) ^ bit);
-        model.alter(tamper, model.token(tamper) ^ bit);
-        ask(at, map, model, model.root(), a, b);
-        ask(at, map, model, model.root(), a + random.nextInt(3) - 1, b + random.nextInt(3) - 1);
+        int length = pair.prove(a, b, random.nextBoolean());
+        pair.token(random.nextInt(Math.max(length, 1)));
+        if (random.nextInt(3) == 0) {
+            int i = random.nextInt(Math.max(length, 1));
+            pair.alter(i, pair.model.token(i) ^ 1 << random.nextInt(32));
+        }
+        ask(pair, pair.model.root(), a, b);
+        ask(pair, pair.model.root(), a + random.nextInt(3) - 1, b + random.nextInt(3) - 1);
     }
 
-    private static int[] tokensOf(WitnessedMap map, int length) {
-        int[] tokens = new int[length + 2];
-        for (int i = 0; i < tokens.length; i++) {
-            tokens[i] = map.token(i);
+    /** The last calls of a run look at each token of a proof and at each of its rows. */
+    private void wholeProof(Random random, Pair pair, int keys) {
+        int x = pick(random, keys);
+        int y = pick(random, keys);
+        int length = pair.prove(Math.min(x, y), Math.max(x, y), random.nextBoolean());
+        for (int i = -1; i <= length; i++) {
+            pair.token(i);
         }
-        return tokens;
+        int shown = pair.check(pair.root(), Math.min(x, y), Math.max(x, y));
+        for (int i = 0; i <= shown && pair.callsLeft() > 1; i++) {
+            pair.row(i, 0);
+            pair.row(i, 1);
+        }
     }
 
-    private static int[] tokensOf(Model model, int length) {
-        int[] tokens = new int[length + 2];
-        for (int i = 0; i < tokens.length; i++) {
-            tokens[i] = model.token(i);
-        }
-        return tokens;
-    }
-
-    private void ask(String at, WitnessedMap map, Model model, int digest, int a, int b) {
-        int check = model.check(digest, a, b);
-        int count = model.count(digest, a, b);
-        Expect.same(at + " check", map.check(digest, a, b), check);
-        Expect.same(at + " count", map.count(digest, a, b), count);
-        for (int i = -1; i <= Math.max(check, 3); i++) {
-            Expect.same(at + " row's key", map.row(i, 0), model.row(i, 0));
-            Expect.same(at + " row's value", map.row(i, 1), model.row(i, 1));
-        }
-        rightChecks += check >= 0 ? 1 : 0;
-        rightCounts += count >= 0 ? 1 : 0;
+    private void ask(Pair pair, int digest, int a, int b) {
+        int shown = pair.check(digest, a, b);
+        int counted = pair.count(digest, a, b);
+        pair.row(0, 0);
+        pair.row(Math.max(shown - 1, 0), 1);
+        pair.row(Math.max(shown, 0), 0);
+        rightChecks += shown >= 0 ? 1 : 0;
+        rightCounts += counted >= 0 ? 1 : 0;
     }
 
     /** A tree that no map may have, its proof for some range, perhaps spoilt, with the right digest. */
@@ -144,11 +148,11 @@ public final class ModelTest {
         if (tokens.length > 150) {
             return;
         }
-        WitnessedMap map = Maps.withProof(fan, tokens);
         Model model = new Model(fan);
         model.proof = Model.listOf(tokens);
-        ask("forgery " + seed, map, model, proof.digest(), a, b);
-        ask("forgery " + seed, map, model, proof.digest(), a + random.nextInt(3) - 1, b + random.nextInt(3) - 1);
+        Pair pair = new Pair("forgery " + seed, Maps.withProof(fan, tokens), model, 62 + tokens.length);
+        ask(pair, proof.digest(), a, b);
+        ask(pair, proof.digest(), a + random.nextInt(3) - 1, b + random.nextInt(3) - 1);
     }
 
     private static Shape forged(Random random, int fan, int depth, int[] key) {

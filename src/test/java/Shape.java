@@ -70,6 +70,10 @@ final class Shape {
         return sum;
     }
 
+    int height() {
+        return kind == INNER ? 1 + children.get(0).height() : 1;
+    }
+
     int digest() {
         if (kind == OUT) {
             return toldDigest;
