@@ -617,8 +617,14 @@ public final class PromiseTest {
         Expect.same("counted, not checked", map.row(0, 0), 0);
         map.check(map.root() + 1, 4, 6);
         Expect.same("checked with another digest", map.row(0, 0), 0);
-        map.check(map.root(), 4, 6);
-        for (int i : new int[] {-1, 3, 4, 119, 120, 500, LEAST, LARGEST}) {
+        // More rows first, so that something could be left behind the rows of the last check.
+        map.prove(1, 20, false);
+        Expect.same("many rows", map.check(map.root(), 1, 20), 20);
+        Expect.same("the last of many", map.row(19, 0), 20);
+        Expect.same("behind the last of many", map.row(20, 0), 0);
+        map.prove(4, 6, false);
+        Expect.same("few rows", map.check(map.root(), 4, 6), 3);
+        for (int i : new int[] {-1, 3, 4, 19, 20, 119, 120, 500, LEAST, LARGEST}) {
             Expect.same("row " + i + " 0", map.row(i, 0), 0);
             Expect.same("row " + i + " 1", map.row(i, 1), 0);
         }

@@ -32,6 +32,7 @@ public final class TreeTest {
         Expect.sentence("A node with F + 1 is SPLIT", TreeTest::splitsInnerNodes);
         Expect.sentence("the others go into a new node right behind it", TreeTest::splitsRightBehind);
         Expect.sentence("a root that is split gets a new root above with both", TreeTest::splitsTheRoot);
+        Expect.sentence("REMOVING a key (found by going down likewise)", TreeTest::removingGoesDown);
         Expect.sentence("the entry goes from its leaf", TreeTest::entryGoes);
         Expect.sentence("A node that is not the root with fewer than LOW", TreeTest::fewerThanLow);
         Expect.sentence("if the node before it under the same parent has more than LOW, "
@@ -367,6 +368,24 @@ public final class TreeTest {
     }
 
     // Removing.
+
+    private static void removingGoesDown() {
+        for (int fan = 3; fan <= 5; fan++) {
+            for (int key = 1; key <= 60; key++) {
+                WitnessedMap map = Maps.upTo(fan, 60);
+                Expect.same("remove " + key + " of 60", map.remove(key), true);
+                Expect.same("removed " + key + " of 60", map.within(key, key), 0);
+            }
+        }
+        WitnessedMap map = eight();
+        for (int key : new int[] {9, 29, 31, 49, 51, 69, 71, 81}) {
+            Expect.same("remove " + key + ", beside a key", map.remove(key), false);
+        }
+        Expect.same("the least of an inner node", map.remove(50), true);
+        Expect.same("the least of all", map.remove(10), true);
+        Expect.same("the largest of all", map.remove(80), true);
+        Expect.tree("what is left", map, Shape.inner(Maps.leaf(20, 30, 40), Maps.leaf(60, 70)));
+    }
 
     private static void entryGoes() {
         Expect.tree("the first", removed(Maps.upTo(3, 3), 1), Maps.leaf(2, 3));
